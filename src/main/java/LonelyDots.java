@@ -357,7 +357,7 @@ public final class LonelyDots {
         if (what < 0 || what > 5) {
             return BAD;
         }
-        // The numbers of the kinds asked for follow one another: THINGS is 1 here, 0 among KINDS.
+        // From 1 on the numbers asked for are those of the KINDS, and one more.
         return what == 0 ? sheetsThere() : thingsOfKind(what - 1);
     }
 
@@ -472,7 +472,7 @@ public final class LonelyDots {
         return g >= 1 && g < p && exponent(g, 1, p) == p - 1;
     }
 
-    /** The least power from 1 on of which value comes, looked for ahead of power p - 1; else that. */
+    /** The least i from 1 on for which base to the power i is value; p - 1 if no lesser one is. */
     private static int exponent(int base, int value, int p) {
         int power = base;
         int i = 1;

@@ -9,6 +9,7 @@ public final class CountedTest {
         count();
         statusOfEachCall();
         statusOfRefusals();
+        statusOfFindings();
         C.end("CountedTest");
     }
 
@@ -154,5 +155,56 @@ public final class CountedTest {
         stays("together", x, x.together(0, 10));
         stays("echo", x, x.echo(0, 0, 0, 1, 3));
         stays("status", x, x.status());
+    }
+
+    /** Checks the answer of a FINDING and its number; each call is made on an object whose status is 0. */
+    private static void finds(int finding, LonelyDots x, int answer) {
+        C.due("finding " + finding, answer, -1000010 - finding);
+        C.due("status of finding " + finding, x.status(), finding);
+        x.kind(0);
+        C.due("status of no finding", x.status(), 0);
+    }
+
+    private static void statusOfFindings() {
+        LonelyDots x = found();
+        Checks.marks(x, 1, 0, 1);
+        x.kind(0);
+        finds(4, x, x.sheet(1, 0, -1));
+        finds(1, x, x.set(1, 0, 0));
+        finds(2, x, x.set(0, 30, 0));
+        finds(1, x, x.copy(0, 0, 1, 0, 0));
+        finds(5, x, x.copy(0, 0, 7, 0, 0));
+        finds(2, x, x.copy(0, 0, 0, 0, 31));
+        finds(1, x, x.drop(1));
+        finds(1, x, x.order(2, 1, 0, 1));
+        finds(2, x, x.order(2, 0, 30, 1));
+        finds(1, x, x.marks(2, 1, 0, 1));
+        finds(2, x, x.marks(2, 0, 30, 1));
+        finds(1, x, x.take(2, 9, 0));
+        finds(3, x, x.take(2, 1, 0));
+        finds(1, x, x.put(2, 9, 0));
+        finds(3, x, x.put(2, 1, 0));
+        finds(1, x, x.turn(2, 9, 0));
+        finds(3, x, x.turn(2, 1, 0));
+        finds(1, x, x.kind(9));
+        finds(1, x, x.as(9, 0));
+        finds(3, x, x.as(1, 1));
+        finds(1, x, x.ask(9, 0));
+        finds(1, x, x.at(9, 0));
+        finds(1, x, x.alike(9, 0));
+        finds(1, x, x.meeting(9, 0, 0, 0));
+        finds(3, x, x.meeting(1, 0, 0, 0));
+        finds(1, x, x.meeting(0, 9, 0, 0));
+        finds(3, x, x.meeting(0, 1, 0, 0));
+        finds(1, x, x.most(9));
+        finds(3, x, x.most(1));
+        finds(1, x, x.together(9, 0));
+        finds(3, x, x.together(1, 0));
+        finds(1, x, x.together(0, 9));
+        finds(3, x, x.together(0, 1));
+        finds(1, x, x.echo(9, 0, 0, 1, 0));
+        finds(3, x, x.echo(1, 0, 0, 1, 0));
+        finds(1, x, x.echo(0, 1, 0, 1, 0));
+        finds(2, x, x.echo(0, 0, 29, 1, 0));
     }
 }

@@ -91,6 +91,7 @@ public final class MeetingsTest {
         LonelyDots x = new LonelyDots();
         Checks.order(x, 0, 0);
         Checks.order(x, 1, 2, 0, 1, 3);
+        C.due("one row and one", x.together(0, 0), 1);
         C.due("one row and four", x.together(0, 1), 1);
         C.due("four rows and one", x.together(1, 0), 1);
         C.due("itself, moved by nothing", x.together(1, 1), 4);
@@ -141,6 +142,12 @@ public final class MeetingsTest {
         echo(x, "the least r, not s", 0, 1, 4, 5, 1);
         Checks.write(x, 0, 5, 9, 5, 6);
         echo(x, "then the least s", 0, 2, 4, 6, 1);
+        Checks.order(x, 0, 0);
+        Checks.write(x, 0, 0, 1, 0, 21, 20, 21, 21, 0);
+        echo(x, "one column on", 0, 1, 0, 1, 1);
+        echo(x, "beyond the last column", 2, 1, 0, 0, 0);
+        echo(x, "beyond the last column of the last row", 4, 1, 0, 0, 0);
+        echo(x, "beyond the last row", 6, 1, 0, 0, 0);
     }
 
     private static void echoOfFarItems() {
