@@ -45,6 +45,24 @@ final class Checks {
         return x.marks(place, 7, 0, marks.length);
     }
 
+    /** 0, 1, .., n - 1: a board's long line, or marks side by side. */
+    static int[] line(int n) {
+        int[] numbers = new int[n];
+        for (int k = 0; k < n; k++) {
+            numbers[k] = k;
+        }
+        return numbers;
+    }
+
+    /** n - 1, .., 1, 0. */
+    static int[] lineBack(int n) {
+        int[] numbers = new int[n];
+        for (int k = 0; k < n; k++) {
+            numbers[k] = n - 1 - k;
+        }
+        return numbers;
+    }
+
     /** Checks all numbers of a THING, and that there are no more of them. */
     void numbers(String call, LonelyDots x, int place, int... want) {
         due(call + " size", x.as(place, 0), want.length);
