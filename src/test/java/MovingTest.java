@@ -181,14 +181,14 @@ public final class MovingTest {
 
     // "by a move r, s (0 to 20 each) a pair FITS".
     private static void movesOfAnEcho() {
-        LonelyDots x = new LonelyDots();
-        Checks.order(x, 0, 0);
-        int[][] rows = {{0, 0, 1}, {0, 20, 1}, {20, 0, 1}, {20, 20, 1}, {7, 13, 1}, {-1, 0, 0}, {0, -1, 0}, {21, 0, 0},
-            {0, 21, 0}, {20, 21, 0}, {21, 20, 0}, {-1, 20, 0}, {20, -1, 0}};
-        for (int[] row : rows) {
-            Checks.write(x, 0, row[0], row[1]);
-            boolean fits = row[2] == 1;
-            echo("one DOT moved by " + row[0] + ", " + row[1], x, 1, fits ? row[0] : 0, fits ? row[1] : 0, row[2]);
+        for (int row = -1; row <= 21; row++) {
+            for (int column = -1; column <= 21; column++) {
+                LonelyDots x = new LonelyDots();
+                Checks.order(x, 0, 0);
+                Checks.write(x, 0, row, column);
+                boolean fits = Math.min(row, column) >= 0 && Math.max(row, column) <= 20;
+                echo("one DOT at " + row + ", " + column, x, 1, fits ? row : 0, fits ? column : 0, fits ? 1 : 0);
+            }
         }
     }
 
@@ -256,7 +256,7 @@ public final class MovingTest {
     private static void nothingFits() {
         LonelyDots x = new LonelyDots();
         Checks.order(x, 0, 0, 1);
-        Checks.write(x, 0, 22, 22, -1, -1, 0, 5 - 6);
+        Checks.write(x, 0, 22, 22, -1, -1, 0, -1);
         echo("nothing FITS: of all moves the least", x, 3, 0, 0, 0);
     }
 
