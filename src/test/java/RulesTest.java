@@ -10,6 +10,8 @@ import java.util.List;
 import java.util.Set;
 import java.util.TreeSet;
 import java.util.function.IntConsumer;
+import java.util.regex.Matcher;
+import java.util.regex.Pattern;
 
 /** What ../shared/LANGUAGE.md asks of the class, as far as a test can see it: the face, the words, the room. */
 public final class RulesTest {
@@ -23,6 +25,7 @@ public final class RulesTest {
         face();
         classesInside();
         words();
+        library();
         lengths();
         room();
         C.end("RulesTest");
@@ -40,7 +43,7 @@ public final class RulesTest {
                 holds("int: " + method, method.getReturnType() == int.class);
             } else if (!method.isSynthetic()) {
                 holds("private: " + method, Modifier.isPrivate(method.getModifiers()));
-                holds("own name: " + method, FACE.stream().noneMatch(m -> m.startsWith(method.getName() + "/")));
+                holds("own name: " + method, !isOfFace(method));
             }
         }
         holds("the methods of the face: " + seen, seen.equals(new TreeSet<>(FACE)));
@@ -59,17 +62,33 @@ public final class RulesTest {
         for (Class<?> own : inside) {
             holds("static: " + own, Modifier.isStatic(own.getModifiers()));
             holds("not public: " + own, !Modifier.isPublic(own.getModifiers()) && !Modifier.isProtected(own.getModifiers()));
-            for (Field field : own.getDeclaredFields()) {
-                holds("final: " + field, !Modifier.isStatic(field.getModifiers()) || Modifier.isFinal(field.getModifiers()));
-            }
             for (Method method : own.getDeclaredMethods()) {
-                holds("seven parameters: " + method, method.getParameterCount() <= 7);
+                holds("own name: " + method, !Modifier.isPrivate(method.getModifiers()) || !isOfFace(method));
             }
+            fewFieldsAndParameters(own);
+        }
+        fewFieldsAndParameters(LonelyDots.class);
+    }
+
+    private static boolean isOfFace(Method method) {
+        return FACE.stream().anyMatch(m -> m.startsWith(method.getName() + "/"));
+    }
+
+    private static void fewFieldsAndParameters(Class<?> one) {
+        int fields = 0;
+        for (Field field : one.getDeclaredFields()) {
+            boolean isStatic = Modifier.isStatic(field.getModifiers());
+            fields += isStatic ? 0 : 1;
+            holds("a constant: " + field, !isStatic || Modifier.isFinal(field.getModifiers()) && field.getType() == int.class);
+        }
+        holds("some twenty fields: " + one, fields <= 20);
+        for (Method method : one.getDeclaredMethods()) {
+            holds("seven parameters: " + method, method.getParameterCount() <= 7);
         }
     }
 
     private static void words() throws IOException {
-        String source = source().replaceAll("(?s)/\\*.*?\\*/", " ").replaceAll("//[^\n]*", " ");
+        String source = code();
         for (String word : List.of("throw", "throws", "try", "catch", "synchronized", "assert", "Exception", "Random",
                 "System.currentTimeMillis", "System.nanoTime", "System.out", "package", "equals", "hashCode", "toString")) {
             holds("no " + word, !source.matches("(?s).*\\b" + word.replace(".", "\\.") + "\\b.*"));
@@ -82,8 +101,28 @@ public final class RulesTest {
         }
     }
 
+    /** Every name with a point behind it that begins large is a class; of the library's there are only these. */
+    private static void library() throws IOException {
+        holds("signs up to 127", source().chars().allMatch(sign -> sign >= 1 && sign <= 127));
+        Set<String> own = new TreeSet<>(Set.of("LonelyDots"));
+        for (Class<?> inside : LonelyDots.class.getDeclaredClasses()) {
+            own.add(inside.getSimpleName());
+        }
+        Matcher used = Pattern.compile("\\b([A-Z][A-Za-z]*[a-z][A-Za-z]*)\\s*\\.\\s*(\\w+)").matcher(code());
+        while (used.find()) {
+            String name = used.group(1) + "." + used.group(2);
+            holds("in the library's list: " + name, own.contains(used.group(1)) || name.equals("Arrays.fill")
+                    || name.equals("Arrays.copyOfRange") || name.equals("System.arraycopy") || name.equals("Math.max")
+                    || name.equals("Math.min"));
+        }
+    }
+
     private static String source() throws IOException {
         return Files.readString(Path.of("src/main/java/LonelyDots.java"));
+    }
+
+    private static String code() throws IOException {
+        return source().replaceAll("(?s)/\\*.*?\\*/", " ").replaceAll("//[^\n]*", " ");
     }
 
     private static void lengths() throws IOException {
